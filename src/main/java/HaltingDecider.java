@@ -298,7 +298,7 @@ public final class HaltingDecider {
             return nextOf(state, symbol) != ABSENT;
         }
 
-        /** Whether a machine in this state that reads this symbol makes no further step but into HALT. */
+        /** Whether there is no transition for this state and symbol, or only one to HALT. */
         boolean endsAt(int state, int symbol) {
             int next = nextOf(state, symbol);
             return next == ABSENT || next == HALT;
@@ -549,6 +549,7 @@ public final class HaltingDecider {
 
     /** All configurations of a run from the start, for the searches that compare two times of it. */
     private static final class History {
+        /** The words of the run's tape, which are those that Tape.wordsFor(MAX_LIMIT) counts. */
         private static final int WORDS = MAX_LIMIT / 16 + 1;
 
         private final Configuration run = new Configuration(MAX_LIMIT);
@@ -613,17 +614,35 @@ public final class HaltingDecider {
             return Tape.bitOf(tapeRows, WORDS * time, position + MAX_LIMIT);
         }
 
+        /**
+         * Since a configuration fixes all later ones, a run that has come to a cycle stays on it: the
+         * last configuration tells whether there is one and how long it is, and the cycle starts at
+         * the first time whose configuration comes again after that many steps.
+         */
         boolean findCycle() {
-            for (int t2 = 1; t2 <= last; t2++) {
-                for (int t1 = 0; t1 < t2; t1++) {
-                    if (areEqual(t1, t2)) {
-                        earlier = t1;
-                        later = t2;
-                        return true;
-                    }
+            int before = lastEqualToTheLast();
+            if (before == NOWHERE) {
+                return false;
+            }
+            int length = last - before;
+            for (int t1 = 0; t1 <= before; t1++) {
+                if (areEqual(t1, t1 + length)) {
+                    earlier = t1;
+                    later = t1 + length;
+                    return true;
                 }
             }
             return false;
+        }
+
+        /** The greatest time before the last one with the same configuration as there, or NOWHERE. */
+        private int lastEqualToTheLast() {
+            for (int time = last - 1; time >= 0; time--) {
+                if (areEqual(time, last)) {
+                    return time;
+                }
+            }
+            return NOWHERE;
         }
 
         private boolean areEqual(int t1, int t2) {

@@ -5,10 +5,18 @@ import java.util.TreeMap;
 public final class OracleTest {
     private static final Checks CHECKS = new Checks();
     private static final String[] ONE_ROW_NEXTS = {"A", "Z"};
+    /** Machines that halt, cycle, drift or run out of partial configurations at the last moment. */
+    private static final String[] EDGES = {"1RB0LC_1RC1RE_1LA0LD_1LA0RA_1RD1LB", "1RB0RB_1RC1LA_1LD0LE_1RA1LC_1LD1LD",
+        "1RB0LA_0RC1LB_1RD1RC_1LA1LD", "1RB0RB_0LE0LC_1RD0RA_1RD0LB_1RA1LE", "1RB1LA_1LC1RD_1LC1LE_1RA1RD_0RA0LC",
+        "0LC1RE_---1LE_0RD0LB_0LC0RB_---1RD"};
     private static final TreeMap<Integer, Integer> VERDICTS = new TreeMap<>();
 
     public static void main(String[] args) {
         allMachinesOfOneState();
+        for (String text : EDGES) {
+            compareSearches(text, 199);
+            compareSearches(text, 200);
+        }
         randomMachines(new Random(1), 2500);
         randomRuns(new Random(2), 400);
         lateRuns(new Random(3), 12);

@@ -37,8 +37,9 @@ public final class SearchTest {
     }
 
     private static void haltingTimes() {
-        String[] texts = {"1RB1LB_1LA1RZ", "1RB1RZ_1LB0RC_1LC1LA", "1RB1LB_1LA0LC_1RZ1LD_1RD0RA", "1RZ---", "1RB---_------"};
-        int[] times = {6, 21, 107, 1, 1};
+        String[] texts = {"1RB1LB_1LA1RZ", "1RB1RZ_1LB0RC_1LC1LA", "1RB1LB_1LA0LC_1RZ1LD_1RD0RA", "1RZ---", "1RB---_------",
+            "1RB---_0RC0LB_1RD1RE_1LB1LD_1RA1RE", "1RB1RZ_0RC0LB_1RD1RE_1LB1LD_1RA1RE"};
+        int[] times = {6, 21, 107, 1, 1, 199, 200};
         for (int i = 0; i < texts.length; i++) {
             HaltingDecider x = Checks.machine(texts[i]);
             for (int limit = 1; limit <= 200; limit++) {
@@ -74,6 +75,9 @@ public final class SearchTest {
         cycle("1LC1RB_0RA0RC_1LB0LB", 8, 12);
         cycle("1LC0RB_1LC0LA_0LD1RD_1RA1RB", 4, 8);
         cycle("0LD1LB_1RD1RD_0RB1LD_1LC0RA", 9, 10);
+        // Found at times 199 and 200, the last ones that a limit allows.
+        cycle("1RB0RB_1RC1LA_1LD0LE_1RA1LC_1LD1LD", 195, 4);
+        cycle("1RB0LC_1RC1RE_1LA0LD_1LA0RA_1RD1LB", 198, 2);
         // No cycles: it halts, it drifts, it sweeps, it has no transition.
         cycle("1RB1LB_1LA1RZ", -1, 0);
         cycle("0RA0RA", -1, 0);
@@ -103,6 +107,10 @@ public final class SearchTest {
         drift("1RC0LB_0RB1RA_1RD0RC_1LA1LD", 13, 13, 5);
         drift("1LB0RC_0LD1LA_0LB0LA_1RB1RD", 11, 11, -3);
         drift("0LD0LC_0RA1RB_0RB1LD_1LC0LC", 167, 88, 4);
+        // Found at time 200, the last one that a limit allows.
+        drift("1RB0LA_0RC1LB_1RD1RC_1LA1LD", 200, 68, -2);
+        drift("1RB0RB_0LE0LC_1RD0RA_1RD0LB_1RA1LE", 200, 192, 4);
+        drift("1RB1LA_1LC1RD_1LC1LE_1RA1RD_0RA0LC", 200, 1, -1);
         // No drifts: it cycles, it halts, it sweeps to and fro, it has no transition.
         drift("0RB---_0LA---", -1, 0, 0);
         drift("1RB1LB_1LA1RZ", -1, 0, 0);
