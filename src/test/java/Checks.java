@@ -6,8 +6,20 @@ final class Checks {
     private int wrong = 0;
 
     void due(String call, long got, long want) {
+        judge(got == want, call, Long.toString(got), Long.toString(want));
+    }
+
+    void due(String call, String got, String want) {
+        judge(got.equals(want), call, got, want);
+    }
+
+    void due(String call, boolean got, boolean want) {
+        due(call, got ? 1 : 0, want ? 1 : 0);
+    }
+
+    private void judge(boolean isRight, String call, String got, String want) {
         answers++;
-        if (got != want) {
+        if (!isRight) {
             wrong++;
             if (wrong <= MOST_PRINTED) {
                 System.out.println(call + " answered " + got + ", due is " + want);
@@ -15,8 +27,8 @@ final class Checks {
         }
     }
 
-    void due(String call, boolean got, boolean want) {
-        due(call, got ? 1 : 0, want ? 1 : 0);
+    int answers() {
+        return answers;
     }
 
     boolean anyWrong() {
@@ -53,12 +65,49 @@ final class Checks {
         return x;
     }
 
-    /** The text of the object's machine, by textAt. */
+    /** The text of the object's machine, by textAt; it takes 35 calls at most. */
     static String textOf(HaltingDecider x) {
         StringBuilder text = new StringBuilder();
-        for (int i = 0; x.textAt(i) != HaltingDecider.NONE && i < 100; i++) {
-            text.append((char) x.textAt(i));
+        for (int i = 0; i < 100; i++) {
+            int code = x.textAt(i);
+            if (code == HaltingDecider.NONE) {
+                break;
+            }
+            text.append((char) code);
         }
         return text.toString();
+    }
+
+    /**
+     * What the calls that show the state answer, but for the typed text, which no call shows; it takes
+     * 100 calls at most.
+     */
+    static String faceOf(HaltingDecider x) {
+        StringBuilder face = new StringBuilder(textOf(x));
+        face.append(" states ").append(x.states()).append(" transitions");
+        for (int state = 0; state < 5; state++) {
+            for (int symbol = 0; symbol <= 1; symbol++) {
+                face.append(' ').append(x.writes(state, symbol)).append(' ').append(x.moves(state, symbol));
+                face.append(' ').append(x.next(state, symbol));
+            }
+        }
+        int head = x.head();
+        face.append(" time ").append(x.time()).append(" state ").append(x.state()).append(" halted ").append(x.halted());
+        face.append(" head ").append(head).append(" ones ").append(x.ones()).append(" visited ").append(x.visited());
+        face.append(" cells ");
+        for (int position = head - 12; position <= head + 12; position++) {
+            face.append(x.cell(position));
+        }
+        return face.toString();
+    }
+
+    /** Makes steps, as many calls as they take; the machine must not halt before them. */
+    static void stepTo(HaltingDecider x, int time) {
+        while (x.time() < time) {
+            int made = x.step(Math.min(1000, time - x.time()));
+            if (made < 1) {
+                throw new IllegalArgumentException("the test's own machine does not come to time " + time);
+            }
+        }
     }
 }

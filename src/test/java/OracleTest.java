@@ -9,6 +9,9 @@ public final class OracleTest {
     private static final String[] EDGES = {"1RB0LC_1RC1RE_1LA0LD_1LA0RA_1RD1LB", "1RB0RB_1RC1LA_1LD0LE_1RA1LC_1LD1LD",
         "1RB0LA_0RC1LB_1RD1RC_1LA1LD", "1RB0RB_0LE0LC_1RD0RA_1RD0LB_1RA1LE", "1RB1LA_1LC1RD_1LC1LE_1RA1RD_0RA0LC",
         "0LC1RE_---1LE_0RD0LB_0LC0RB_---1RD"};
+    /** What an object is made for, and what the last round of mixed calls and the end of a run can take of it. */
+    private static final int MOST_CALLS = 512;
+    private static final int LAST_CALLS = 140;
     private static final TreeMap<Integer, Integer> VERDICTS = new TreeMap<>();
 
     public static void main(String[] args) {
@@ -18,7 +21,7 @@ public final class OracleTest {
             compareSearches(text, 200);
         }
         randomMachines(new Random(1), 2500);
-        randomRuns(new Random(2), 400);
+        randomRuns(new Random(2), 1600);
         lateRuns(new Random(3), 12);
         System.out.println("verdicts met, with their numbers: " + VERDICTS);
         for (int verdict = 0; verdict <= 5; verdict++) {
@@ -101,8 +104,9 @@ public final class OracleTest {
         for (int run = 0; run < number && !CHECKS.anyWrong(); run++) {
             HaltingDecider x = new HaltingDecider();
             Oracle o = new Oracle();
-            int calls = 1 + random.nextInt(200);
-            for (int i = 0; i < calls; i++) {
+            int room = random.nextInt(MOST_CALLS - LAST_CALLS);
+            int before = CHECKS.answers();
+            while (CHECKS.answers() - before <= room) {
                 randomCall(run, random, x, o);
             }
             CHECKS.due("run " + run + " ends with the machine", Checks.textOf(x).equals(o.machineText()), true);

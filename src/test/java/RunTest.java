@@ -151,7 +151,7 @@ public final class RunTest {
         CHECKS.due("17: head()", x.head(), -5000);
         CHECKS.due("19: ones()", x.ones(), 2500);
         CHECKS.due("20: visited()", x.visited(), 5001);
-        for (int position = 0; position >= -4999; position -= 7) {
+        for (int position = 0; position >= -4999; position -= 11) {
             CHECKS.due("18: cell(" + position + ")", x.cell(position), position % 2 == 0 ? 1 : 0);
         }
         CHECKS.due("18: cell(-4998)", x.cell(-4998), 1);
