@@ -43,6 +43,7 @@ public final class BoundaryProofTest {
         refutedForDepthEight();
         closedForWindowsUpToThree();
         firstThatApplies();
+        everyChangeOfTheMachineCounts();
         CHECKS.finish();
     }
 
@@ -400,5 +401,33 @@ public final class BoundaryProofTest {
         x = Checks.machine("0RA---");
         CHECKS.due("27: closedSet(1)", x.closedSet(1), 1);
         CHECKS.due("28: DRIFTS before CLOSED", x.decide(1), DRIFTS);
+    }
+
+    /** The searches speak of the machine as it is: what an earlier machine left behind is not seen. */
+    private static void everyChangeOfTheMachineCounts() {
+        HaltingDecider x = Checks.machine("1RB1LB_1LA1RZ");
+        answers(x, NONE, NONE, HALTS);
+        x.setTransition(1, 1, 1, 1, 1);
+        answers(x, 0, 11, DRIFTS);
+        x.removeTransition(0, 0);
+        answers(x, NONE, NONE, HALTS);
+        Checks.loadText(x, FULL);
+        answers(x, 0, 40, REFUTED);
+        x.setStates(5);
+        answers(x, NONE, NONE, HALTS);
+        x.setTransition(0, 0, 0, 0, 0);
+        answers(x, NONE, 1, DRIFTS);
+        Checks.loadText(x, "1LA1RA_---1LZ");
+        answers(x, 1, 2, DRIFTS);
+        Checks.loadText(x, "1LA1RX_---1LZ");
+        answers(x, 1, 2, DRIFTS);
+        Checks.loadText(x, "0RA0RA");
+        answers(x, 0, 1, DRIFTS);
+    }
+
+    private static void answers(HaltingDecider x, int depth, int closedSet, int verdict) {
+        CHECKS.due("26: backwardDepth(8) of the changed machine", x.backwardDepth(8), depth);
+        CHECKS.due("27: closedSet(1) of the changed machine", x.closedSet(1), closedSet);
+        CHECKS.due("28: decide(200) of the changed machine", x.decide(200), verdict);
     }
 }

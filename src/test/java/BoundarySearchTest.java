@@ -21,6 +21,7 @@ public final class BoundarySearchTest {
         haltsAtTheLimit();
         haltsAtTheLastLimit();
         searchesDoNotUseTheCurrentConfiguration();
+        searchesDoNotUseOneAnother();
         cycleAtTheLimit();
         cycleAtTheLastLimit();
         cycleNeedsTheSameState();
@@ -178,6 +179,35 @@ public final class BoundarySearchTest {
                 CHECKS.due("28: decide of " + text, x.decide(20), fresh.decide(20));
                 CHECKS.due("21: the state of " + text + " after them", Checks.faceOf(x), face);
             }
+        }
+    }
+
+    /** Each search as the first one of an object, and after the same one with another limit. */
+    private static void searchesDoNotUseOneAnother() {
+        CHECKS.due("21: haltingTime(6) alone", Checks.machine("1RB1LB_1LA1RZ").haltingTime(6), 6);
+        CHECKS.due("22: cycleStart(20) alone", Checks.machine("1LC1RB_0RA0RC_1LB0LB").cycleStart(20), 8);
+        CHECKS.due("23: cycleLength(20) alone", Checks.machine("1LC1RB_0RA0RC_1LB0LB").cycleLength(20), 12);
+        CHECKS.due("24: driftPeriod(11) alone", Checks.machine("1RB1LB_1LA0RB").driftPeriod(11), 3);
+        CHECKS.due("25: driftOffset(11) alone", Checks.machine("1RB1LB_1LA0RB").driftOffset(11), 1);
+        CHECKS.due("25: driftOffset(10) alone", Checks.machine("1RB1LB_1LA0RB").driftOffset(10), NONE);
+        int[] limits = {200, 1, 200, 5, 6, 10, 11, 19, 20, 5, 19, 10, 200};
+        HaltingDecider x = new HaltingDecider();
+        for (int limit : limits) {
+            Checks.loadText(x, "1RB1LB_1LA1RZ");
+            CHECKS.due("21: haltingTime(" + limit + ")", x.haltingTime(limit), limit >= 6 ? 6 : NONE);
+            Checks.loadText(x, "1LC1RB_0RA0RC_1LB0LB");
+            CHECKS.due("22: cycleStart(" + limit + ")", x.cycleStart(limit), limit >= 20 ? 8 : NONE);
+        }
+        x = Checks.machine("1LC1RB_0RA0RC_1LB0LB");
+        for (int limit : limits) {
+            CHECKS.due("23: cycleLength(" + limit + ")", x.cycleLength(limit), limit >= 20 ? 12 : NONE);
+        }
+        x = Checks.machine("1RB1LB_1LA0RB");
+        for (int limit : limits) {
+            CHECKS.due("24: driftPeriod(" + limit + ")", x.driftPeriod(limit), limit >= 11 ? 3 : NONE);
+        }
+        for (int limit : limits) {
+            CHECKS.due("25: driftOffset(" + limit + ")", x.driftOffset(limit), limit >= 11 ? 1 : NONE);
         }
     }
 

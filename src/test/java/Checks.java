@@ -83,20 +83,20 @@ final class Checks {
      * 100 calls at most.
      */
     static String faceOf(HaltingDecider x) {
-        StringBuilder face = new StringBuilder(textOf(x));
-        face.append(" states ").append(x.states()).append(" transitions");
+        // The run comes first, so that a later look that changes it by mistake is not made on both of two twins.
+        int head = x.head();
+        StringBuilder face = new StringBuilder("head ").append(head).append(" time ").append(x.time());
+        face.append(" state ").append(x.state()).append(" halted ").append(x.halted());
+        face.append(" ones ").append(x.ones()).append(" visited ").append(x.visited()).append(" cells ");
+        for (int position = head - 12; position <= head + 12; position++) {
+            face.append(x.cell(position));
+        }
+        face.append(" states ").append(x.states()).append(" machine ").append(textOf(x)).append(" transitions");
         for (int state = 0; state < 5; state++) {
             for (int symbol = 0; symbol <= 1; symbol++) {
                 face.append(' ').append(x.writes(state, symbol)).append(' ').append(x.moves(state, symbol));
                 face.append(' ').append(x.next(state, symbol));
             }
-        }
-        int head = x.head();
-        face.append(" time ").append(x.time()).append(" state ").append(x.state()).append(" halted ").append(x.halted());
-        face.append(" head ").append(head).append(" ones ").append(x.ones()).append(" visited ").append(x.visited());
-        face.append(" cells ");
-        for (int position = head - 12; position <= head + 12; position++) {
-            face.append(x.cell(position));
         }
         return face.toString();
     }
