@@ -15,6 +15,7 @@ import java.util.regex.Pattern;
 public final class FaceTest {
     private static final Checks CHECKS = new Checks();
     private static final Path SOURCE = Path.of("src/main/java/HaltingDecider.java");
+    private static final Path README = Path.of("README.md");
     private static final List<String> METHODS = List.of("int setStates(int)", "int states()",
             "int setTransition(int, int, int, int, int)", "int removeTransition(int, int)", "int writes(int, int)",
             "int moves(int, int)", "int next(int, int)", "int type(int)", "int load()", "int textAt(int)",
@@ -34,6 +35,7 @@ public final class FaceTest {
         classesInside();
         staticFields();
         source();
+        readme();
         CHECKS.finish();
     }
 
@@ -110,5 +112,17 @@ public final class FaceTest {
             CHECKS.due("rule 4: import " + imports.group(1), imports.group(1).equals("java.util.Arrays"), true);
         }
         CHECKS.due("the source has plain signs", text.chars().allMatch(c -> c == '\n' || c >= 32 && c < 127), true);
+    }
+
+    private static void readme() throws IOException {
+        String text = Files.readString(README);
+        for (String method : METHODS) {
+            String name = method.substring(method.indexOf(' ') + 1, method.indexOf('('));
+            CHECKS.due("README.md lists " + name, text.contains("`" + name + "("), true);
+        }
+        for (String constant : CONSTANTS) {
+            String row = "| `" + constant.replace("=", "` | ") + " |";
+            CHECKS.due("README.md has the row " + row, text.contains(row), true);
+        }
     }
 }
