@@ -300,8 +300,8 @@ public final class HaltingDecider {
 
         /** Whether there is no transition for this state and symbol, or only one to HALT. */
         boolean endsAt(int state, int symbol) {
-            int next = nextOf(state, symbol);
-            return next == ABSENT || next == HALT;
+            int slot = slotOf(state, symbol);
+            return slot == NOWHERE || following[slot] == ABSENT || following[slot] == HALT;
         }
 
         void put(int state, int symbol, int write, int move, int next) {
@@ -330,7 +330,9 @@ public final class HaltingDecider {
         }
 
         private int slotOf(int state, int symbol) {
-            return exists(state) && isSymbol(symbol) ? 2 * state + symbol : NOWHERE;
+            // These are exists and isSymbol, written out, since the calls that lead here go deep already.
+            boolean isThere = state >= 0 && state < count && symbol >= 0 && symbol <= 1;
+            return isThere ? 2 * state + symbol : NOWHERE;
         }
 
         int characterAt(int state, int column) {
